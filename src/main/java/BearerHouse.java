@@ -744,13 +744,12 @@ public final class BearerHouse {
             }
         }
 
-        private void dropWaiting(int i) {
-            if (i >= 0 && i < waiting) {
-                for (int k = i; k + 1 < waiting; k++) {
-                    ids[k] = ids[k + 1];
-                }
-                waiting--;
+        private void dropFront() {
+            for (int i = 1; i < waiting && i < ids.length; i++) {
+                ids[i - 1] = ids[i];
             }
+            waiting = Math.max(waiting - 1, 0);
+            gone = 0;
         }
 
         private int packetSize(int id) {
@@ -790,8 +789,7 @@ public final class BearerHouse {
             gone++;
             if (gone >= frontSize) {
                 cell += LAST;
-                gone = 0;
-                dropWaiting(0);
+                dropFront();
             }
             return cell;
         }
@@ -814,12 +812,13 @@ public final class BearerHouse {
         private void confirmUnit(int count) {
             isKept[count & UNIT_ROWS - 1] = false;
             kept--;
-            for (int i = gone > 0 ? 1 : 0; i < waiting; i++) {
-                if (ids[i] == count) {
-                    dropWaiting(i);
-                    break;
+            int staying = 0;
+            for (int i = 0; i < waiting && i < ids.length; i++) {
+                if (ids[i] != count || i == 0 && gone > 0) {
+                    ids[staying++] = ids[i];
                 }
             }
+            waiting = staying;
             for (int i = 0; i < UNIT_ROWS && lowCount < nextCount && !isKept[lowCount & UNIT_ROWS - 1]; i++) {
                 lowCount++;
             }

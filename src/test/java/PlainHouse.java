@@ -10,12 +10,12 @@ import javax.crypto.spec.SecretKeySpec;
 
 /**
  * The document told a second time, with the collections and the AES of the Java library:
- * slow and plain, so that it can be read beside the document. HouseAgainstPlain compares both.
+ * slow and plain, so that it can be read beside the document. HouseAgainstPlainTest compares both.
  */
 final class PlainHouse {
     static final int NONE = -1;
 
-    /** What the runs have reached: HouseAgainstPlain asks that nothing important stays unreached. */
+    /** What the runs have reached: HouseAgainstPlainTest asks that nothing important stays unreached. */
     final Set<String> reached = new TreeSet<>();
 
     static final class Packet {

@@ -5,7 +5,7 @@ import java.util.Random;
 import java.util.TreeSet;
 
 /** Random runs of calls, from fixed seeds: BearerHouse must answer as PlainHouse does, in every look at it. */
-public final class HouseAgainstPlain {
+public final class HouseAgainstPlainTest {
     private static final int RUNS = 1500;
     private static final String[] MUST_BE_REACHED = {
         "16 pieces on their way", "FAILED", "a BUCKET that is above", "a COUNT of L + 24",
@@ -26,7 +26,7 @@ public final class HouseAgainstPlain {
     private int[] tape = {};
     private boolean isWrong;
 
-    private HouseAgainstPlain(long seed) {
+    private HouseAgainstPlainTest(long seed) {
         random = new Random(seed);
         int bearers = random.nextInt(5);
         int key = random.nextInt();
@@ -42,7 +42,7 @@ public final class HouseAgainstPlain {
         TreeSet<String> reached = new TreeSet<>();
         int wrong = 0;
         for (int i = 0; i < RUNS; i++) {
-            HouseAgainstPlain run = new HouseAgainstPlain(i);
+            HouseAgainstPlainTest run = new HouseAgainstPlainTest(i);
             run.go();
             reached.addAll(run.plain.reached);
             if (run.isWrong && wrong++ < 3) {
