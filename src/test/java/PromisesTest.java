@@ -26,6 +26,8 @@ public final class PromisesTest {
         promise8Ciphers();
         promise9Sender();
         promise9PartsAndRuns();
+        promise9StatusOfManyRuns();
+        promise9StatusOfManyPieces();
         promise9Fails();
         promise9Polls();
         promise10Receiver();
@@ -547,6 +549,54 @@ public final class PromisesTest {
         dueAll("a run up to an end that isn't known", part(blockOf(k, 1), 0, 7), 0, 5, 1, 1, 128, 5, 255);
         k.tick(25, 0, 0);
         due("its piece comes in full then", k.delivered(1, 0, 0), 1);
+    }
+
+    /** Every second byte of a piece is missing, of which there are runs then; block of peer 1 with its STATUS. */
+    private static int[] statusOfRuns(int runs, int g) {
+        BearerHouse h = plainHouse();
+        int packet = 2 * runs + 1;
+        give(h, 0, 0, packet - 1, 0);
+        h.tick(packet + 4, 0, GONE_0);
+        idle(h, 9);
+        for (int i = 0; i < packet; i++) {
+            h.tick(6, 0, i % 2 == 0 ? 0 : GONE_0);
+        }
+        due("all of it was made", h.sender(0, 0, 4), 0);
+        due("what came", h.receiver(1, 0, 7), runs + 1);
+        h.tick(0, g, 0);
+        due("what is missing is in AGAIN", h.sender(0, 0, 4), h.block(1, 2));
+        return blockOf(h, 1);
+    }
+
+    private static void promise9StatusOfManyRuns() {
+        int[] some = statusOfRuns(15, 49);
+        dueAll("15 entries", part(some, 0, 4), 0, 47, 15, 1);
+        for (int i = 0; i < 15; i++) {
+            dueAll("entry " + i, part(some, 4 + 3 * i, 7 + 3 * i), 128, 2 * i + 1, 2 * i + 1);
+        }
+        dueAll("16 do not go", part(statusOfRuns(16, 250), 0, 5), 0, 2, 0, 0, 255);
+        dueAll("nor 15 in a byte less", part(statusOfRuns(15, 48), 0, 5), 0, 2, 0, 0, 255);
+    }
+
+    private static void promise9StatusOfManyPieces() {
+        for (int g = 18; g <= 19; g++) {
+            BearerHouse h = plainHouse();
+            give(h, 0, 0, 120, 0);
+            for (int i = 0; i < 16; i++) {
+                h.tick(10, 0, i < 15 ? GONE_0 : 0);
+            }
+            idle(h, 5);
+            h.tick(0, g, 0);
+            int[] status = part(blockOf(h, 1), 0, 4);
+            if (g == 19) {
+                dueAll("15 pieces of which nothing came", status, 0, 17, 15, 16);
+                due("the last entry", h.block(1, 18), 14);
+                due("all but the last one are in AGAIN", h.sender(0, 0, 4), 15 * 6);
+            } else {
+                dueAll("14 with ACK the next one", status, 0, 16, 14, 14);
+                due("14 are in AGAIN", h.sender(0, 0, 4), 14 * 6);
+            }
+        }
     }
 
     private static void promise9Fails() {
