@@ -4,9 +4,11 @@ import java.util.List;
 import java.util.Random;
 import java.util.TreeSet;
 
-/** Random runs of calls, from fixed seeds: BearerHouse must answer as PlainHouse does, in every look at it. */
+/** Random runs of 512 calls, from fixed seeds: BearerHouse must answer as PlainHouse does, in every look at it. */
 public final class HouseAgainstPlainTest {
-    private static final int RUNS = 1500;
+    private static final int RUNS = 8000;
+    /** Calls of a run that are kept for looks at what has become of it. */
+    private static final int LAST_LOOKS = 100;
     private static final String[] MUST_BE_REACHED = {
         "16 pieces on their way", "FAILED", "a BUCKET that is above", "a COUNT of L + 24",
         "a DOUBLE below NEXT", "a DOUBLE that is STORED", "a PART", "a PART by BUCKET", "a PART of what is left",
@@ -19,7 +21,7 @@ public final class HouseAgainstPlainTest {
         "the REORDER timer runs again"};
 
     private final Random random;
-    private final BearerHouse house;
+    private final House house;
     private final PlainHouse plain;
     private final List<List<int[]>> taken = new ArrayList<>();
     private final StringBuilder log = new StringBuilder();
@@ -30,7 +32,7 @@ public final class HouseAgainstPlainTest {
         random = new Random(seed);
         int bearers = random.nextInt(5);
         int key = random.nextInt();
-        house = new BearerHouse(bearers, key);
+        house = new House(bearers, key);
         plain = new PlainHouse(bearers, key);
         for (int i = 0; i < 6; i++) {
             taken.add(new ArrayList<>());
@@ -73,8 +75,9 @@ public final class HouseAgainstPlainTest {
         int renewPercent = new int[] {0, 1, 4, 10}[random.nextInt(4)];
         int mostRoom = new int[] {10, 25, 60, 250}[random.nextInt(4)];
         int mostBytes = new int[] {3, 20, 120}[random.nextInt(3)];
+        int lookPercent = new int[] {10, 40, 70}[random.nextInt(3)];
         boolean isOneSided = random.nextBoolean();
-        for (int i = 0; i < 400 && !isWrong; i++) {
+        while (house.callsLeft() > LAST_LOOKS && !isWrong) {
             if (chance(renewPercent)) {
                 due("renew()", house.renew(), plain.renew());
             } else if (chance(3)) {
@@ -84,15 +87,24 @@ public final class HouseAgainstPlainTest {
             } else if (chance(sendPercent)) {
                 sendUnit(1 + random.nextInt(mostBytes), isOneSided);
             } else {
-                int g0 = chance(2) ? random.nextInt(300) - 20 : random.nextInt(mostRoom + 1);
-                int g1 = chance(2) ? random.nextInt(300) - 20 : random.nextInt(mostRoom + 1);
-                int faults = (chance(lossPercent) ? 1 : 0) + (chance(lossPercent) ? 2 : 0)
-                    + (chance(turnPercent) ? 4 : 0) + (chance(turnPercent) ? 8 : 0) + (chance(10) ? -16 : 0);
-                due("tick(" + g0 + ", " + g1 + ", " + faults + ")",
-                    house.tick(g0, g1, faults), plain.tick(g0, g1, faults));
+                tickOnce(mostRoom, lossPercent, turnPercent);
             }
-            look();
+            while (chance(lookPercent)) {
+                lookOnce();
+            }
+            lookAtAllDelivered();
         }
+        while (house.callsLeft() > 0 && !isWrong) {
+            lookOnce();
+        }
+    }
+
+    private void tickOnce(int mostRoom, int lossPercent, int turnPercent) {
+        int g0 = chance(2) ? random.nextInt(300) - 20 : random.nextInt(mostRoom + 1);
+        int g1 = chance(2) ? random.nextInt(300) - 20 : random.nextInt(mostRoom + 1);
+        int faults = (chance(lossPercent) ? 1 : 0) + (chance(lossPercent) ? 2 : 0)
+            + (chance(turnPercent) ? 4 : 0) + (chance(turnPercent) ? 8 : 0) + (chance(10) ? -16 : 0);
+        due("tick(" + g0 + ", " + g1 + ", " + faults + ")", house.tick(g0, g1, faults), plain.tick(g0, g1, faults));
     }
 
     private void sendUnit(int wish, boolean isOneSided) {
@@ -126,47 +138,52 @@ public final class HouseAgainstPlainTest {
         }
     }
 
-    private void same(String call, int got, int want) {
-        if (got != want) {
-            due(call, got, want);
+    private void lookOnce() {
+        int p = random.nextInt(2);
+        int b = random.nextInt(3);
+        int what = random.nextInt(14) - 1;
+        String asked = "(" + p + ", " + b + ", " + what + ")";
+        switch (random.nextInt(9)) {
+            case 0: case 1:
+                due("sender" + asked, house.sender(p, b, what), plain.sender(p, b, what));
+                break;
+            case 2: case 3:
+                due("receiver" + asked, house.receiver(p, b, what), plain.receiver(p, b, what));
+                break;
+            case 4:
+                int of = random.nextInt(8) - 1;
+                due("delivered(" + p + ", " + b + ", " + of + ")", house.delivered(p, b, of), plain.delivered(p, b, of));
+                break;
+            case 5:
+                int i = random.nextInt(plain.receivers[p][b].latest.length + 2) - 1;
+                due("unit(" + p + ", " + b + ", " + i + ")", house.unit(p, b, i), plain.unit(p, b, i));
+                break;
+            case 6:
+                int at = random.nextInt(Math.max(plain.block(p, -1), 0) + 2) - 1;
+                due("block(" + p + ", " + at + ")", house.block(p, at), plain.block(p, at));
+                break;
+            case 7:
+                int k = random.nextInt(5);
+                due("process(" + p + ", " + k + ", " + b + ")", house.process(p, k, b), plain.process(p, k, b));
+                break;
+            default:
+                int count = random.nextInt(9) - 1;
+                due("world(" + count + ")", house.world(count), plain.world(count));
+                break;
         }
     }
 
-    private void look() {
-        for (int what = -1; what < 8; what++) {
-            same("world(" + what + ")", house.world(what), plain.world(what));
-        }
+    private void lookAtAllDelivered() {
         for (int p = 0; p < 2; p++) {
             for (int b = 0; b < 3; b++) {
-                lookAtBearer(p, b);
+                List<int[]> brought = plain.receivers[p][b].all;
+                List<int[]> sent = taken.get(3 * (1 - p) + b);
+                int last = brought.size() - 1;
+                boolean isBeginning = last < sent.size() && (last < 0 || Arrays.equals(brought.get(last), sent.get(last)));
+                if (!isBeginning) {
+                    due("unit " + last + " at (" + p + ", " + b + ") is the one that was taken", 0, 1);
+                }
             }
-            for (int k = 0; k < 12; k++) {
-                same("process(" + p + ", " + k / 3 + ", " + k % 3 + ")",
-                    house.process(p, k / 3, k % 3), plain.process(p, k / 3, k % 3));
-            }
-            int size = house.block(p, -1);
-            for (int i = -2; i <= size; i++) {
-                same("block(" + p + ", " + i + ")", house.block(p, i), plain.block(p, i));
-            }
-        }
-    }
-
-    private void lookAtBearer(int p, int b) {
-        String place = "(" + p + ", " + b + ", ";
-        for (int what = -1; what <= 12; what++) {
-            same("sender" + place + what + ")", house.sender(p, b, what), plain.sender(p, b, what));
-            same("receiver" + place + what + ")", house.receiver(p, b, what), plain.receiver(p, b, what));
-            same("delivered" + place + what + ")", house.delivered(p, b, what), plain.delivered(p, b, what));
-        }
-        int size = house.delivered(p, b, 5);
-        for (int i = -1; i <= size; i++) {
-            same("unit" + place + i + ")", house.unit(p, b, i), plain.unit(p, b, i));
-        }
-        List<int[]> brought = plain.receivers[p][b].all;
-        List<int[]> sent = taken.get(3 * (1 - p) + b);
-        for (int i = Math.max(0, brought.size() - 1); i < brought.size(); i++) {
-            boolean isBeginning = i < sent.size() && Arrays.equals(brought.get(i), sent.get(i));
-            same("unit " + i + " at" + place + "..) is the one that was sent", isBeginning ? 1 : 0, 1);
         }
     }
 }

@@ -1,16 +1,6 @@
-import java.nio.ByteBuffer;
-import javax.crypto.Cipher;
-import javax.crypto.spec.SecretKeySpec;
-
 /** Each promise of the document, by runs made by hand; what is due was worked out from the document's words. */
-public final class PromisesTest {
-    private static final int NONE = -1;
-    /** Faults of tick: what peer 0 sends is lost, and it is told that it came. */
-    private static final int GONE_0 = 1 + 4;
-    private static int checks;
-    private static int wrong;
-
-    public static void main(String[] args) throws Exception {
+public final class PromisesTest extends Bench {
+    public static void main(String[] args) {
         promise1NewObject();
         promise2Feed();
         promise3End();
@@ -35,113 +25,22 @@ public final class PromisesTest {
         promise12Unit();
         promise13Process();
         promise14World();
-        System.out.println(checks - wrong + " answers are as due, " + wrong + " are not");
-        if (wrong != 0) {
-            System.exit(1);
-        }
-    }
-
-    private static void due(String what, int got, int want) {
-        checks++;
-        if (got != want) {
-            wrong++;
-            System.out.println(what + ": answered " + got + ", due is " + want);
-        }
-    }
-
-    private static void dueAll(String what, int[] got, int... want) {
-        due(what + ", how many", got.length, want.length);
-        for (int i = 0; i < Math.min(got.length, want.length); i++) {
-            due(what + ", [" + i + "]", got[i], want[i]);
-        }
-    }
-
-    /** A house of one bearer whose bucket stays 0: its blocks have one PART for as much as there is room. */
-    private static BearerHouse plainHouse() {
-        BearerHouse h = new BearerHouse(1, 1234);
-        due("rate 0", h.rate(0, 0) ? 1 : 0, 1);
-        return h;
-    }
-
-    /** Sends a unit of size bytes start, start + 1, .. */
-    private static int give(BearerHouse h, int peer, int bearer, int size, int start) {
-        h.end(0);
-        for (int i = 0; i < size; i += 20) {
-            int[] w = new int[5];
-            for (int k = 0; k < 20; k++) {
-                w[k / 4] |= (start + i + k & 255) << 24 - 8 * (k % 4);
-            }
-            h.feed(w[0], w[1], w[2], w[3], w[4]);
-        }
-        h.end(size);
-        return h.send(peer, bearer);
-    }
-
-    private static int[] blockOf(BearerHouse h, int peer) {
-        int[] bytes = new int[Math.max(0, h.block(peer, -1))];
-        for (int i = 0; i < bytes.length; i++) {
-            bytes[i] = h.block(peer, i);
-        }
-        return bytes;
-    }
-
-    private static int[] part(int[] row, int from, int to) {
-        return java.util.Arrays.copyOfRange(row, from, to);
-    }
-
-    private static int[] asks(BearerHouse h, char of, int peer, int bearer) {
-        int[] answers = new int[of == 'd' ? 6 : of == 'w' ? 7 : 12];
-        for (int i = 0; i < answers.length; i++) {
-            answers[i] = of == 'd' ? h.delivered(peer, bearer, i) : of == 'w' ? h.world(i)
-                : of == 's' ? h.sender(peer, bearer, i) : h.receiver(peer, bearer, i);
-        }
-        return answers;
-    }
-
-    private static void idle(BearerHouse h, int ticks) {
-        for (int i = 0; i < ticks; i++) {
-            h.tick(0, 0, 0);
-        }
-    }
-
-    private static int[] packet(int[] unit, int seed, int epoch, int count, int peer, int bearer) throws Exception {
-        byte[] key = new byte[16];
-        for (int i = 0; i < 16; i++) {
-            key[i] = (byte) ((seed >> 8 * (i & 3)) + 17 * i + 29 * epoch);
-        }
-        Cipher aes = Cipher.getInstance("AES/ECB/NoPadding");
-        aes.init(Cipher.ENCRYPT_MODE, new SecretKeySpec(key, "AES"));
-        int[] packet = new int[unit.length + 1];
-        packet[0] = 128 + (count & 63);
-        for (int i = 0; i < unit.length; i++) {
-            ByteBuffer in = ByteBuffer.allocate(16).putInt(0, count).putInt(12, i / 16);
-            in.put(4, (byte) (8 * bearer + 4 * peer));
-            packet[i + 1] = unit[i] ^ aes.doFinal(in.array())[i % 16] & 255;
-        }
-        return packet;
-    }
-
-    private static int[] row(int size, int start) {
-        int[] row = new int[size];
-        for (int i = 0; i < size; i++) {
-            row[i] = start + i & 255;
-        }
-        return row;
+        finish();
     }
 
     private static void promise1NewObject() {
         int[][] cases = {{1, 1}, {2, 2}, {3, 3}, {0, 2}, {4, 2}, {-1, 2}, {Integer.MAX_VALUE, 2}, {Integer.MIN_VALUE, 2}};
         for (int[] c : cases) {
-            BearerHouse h = new BearerHouse(c[0], 7);
+            House h = new House(c[0], 7);
             for (int b = 0; b < 5; b++) {
                 due("bearer " + b + " of a house made with " + c[0], h.sender(1, b, 0), b < c[1] ? 0 : NONE);
             }
         }
-        BearerHouse h = new BearerHouse(3, -9);
-        dueAll("a new sender", asks(h, 's', 1, 2), 0, 0, 0, 0, 0, 0, 0, 0, 0, 0, 0, 0);
-        dueAll("a new receiver", asks(h, 'r', 0, 1), 0, 0, 0, 0, 0, 0, 0, 0, 0, 0, 0, NONE);
-        dueAll("nothing delivered", asks(h, 'd', 0, 1), 0, 0, 0, 0, 0, 0);
-        dueAll("a new world", asks(h, 'w', 0, 0), 0, 0, 0, 0, 0, 0, 0);
+        House h = new House(3, -9);
+        dueAll("a new sender", senderAsked(h, 1, 2, upTo(12)), 0, 0, 0, 0, 0, 0, 0, 0, 0, 0, 0, 0);
+        dueAll("a new receiver", receiverAsked(h, 0, 1, upTo(12)), 0, 0, 0, 0, 0, 0, 0, 0, 0, 0, 0, NONE);
+        dueAll("nothing delivered", deliveredAsked(h, 0, 1, upTo(6)), 0, 0, 0, 0, 0, 0);
+        dueAll("a new world", worldAsked(h), 0, 0, 0, 0, 0, 0, 0);
         due("a new process", h.process(0, 0, 0), 0);
         due("no block", h.block(0, -1), NONE);
         due("an empty tape", h.end(1), NONE);
@@ -149,7 +48,7 @@ public final class PromisesTest {
     }
 
     private static void promise2Feed() {
-        BearerHouse h = plainHouse();
+        House h = plainHouse();
         for (int i = 1; i <= 6; i++) {
             due("feed " + i, h.feed(i, 2, 3, 4, 5), 20 * i);
         }
@@ -172,7 +71,7 @@ public final class PromisesTest {
     }
 
     private static void promise3End() {
-        BearerHouse h = plainHouse();
+        House h = plainHouse();
         due("end(0) of an empty tape", h.end(0), 0);
         due("end(1) of an empty tape", h.end(1), NONE);
         h.feed(0x01020304, 0x05060708, 0, 0, 0);
@@ -194,7 +93,7 @@ public final class PromisesTest {
     }
 
     private static void promise4Send() {
-        BearerHouse h = new BearerHouse(2, 3);
+        House h = new House(2, 3);
         due("an empty tape", h.send(0, 0), NONE);
         h.feed(1, 2, 3, 4, 5);
         int[][] none = {{-1, 0}, {2, 0}, {0, -1}, {0, 2}, {1, 3}, {Integer.MIN_VALUE, Integer.MAX_VALUE}};
@@ -223,7 +122,7 @@ public final class PromisesTest {
     }
 
     private static void promise5Rate() {
-        BearerHouse h = new BearerHouse(2, 3);
+        House h = new House(2, 3);
         int[][] cases = {{0, 0, 1}, {1, 200, 1}, {0, 201, 0}, {0, -1, 0}, {2, 5, 0}, {-1, 5, 0}, {Integer.MAX_VALUE, 5, 0}};
         for (int[] c : cases) {
             due("rate(" + c[0] + ", " + c[1] + ")", h.rate(c[0], c[1]) ? 1 : 0, c[2]);
@@ -244,13 +143,13 @@ public final class PromisesTest {
         h.rate(0, 8);
         h.tick(0, 0, 0);
         due("up to 5 * RATE", h.sender(1, 0, 7), 40);
-        BearerHouse first = new BearerHouse(1, 3);
+        House first = new House(1, 3);
         first.tick(0, 0, 0);
         due("RATE at first", first.sender(0, 0, 7), 16);
     }
 
     private static void promise5SharesOfABlock() {
-        BearerHouse h = new BearerHouse(3, 3);
+        House h = new House(3, 3);
         h.rate(0, 10);
         h.rate(1, 2);
         h.rate(2, 20);
@@ -273,7 +172,7 @@ public final class PromisesTest {
     }
 
     private static void promise6Tick() {
-        BearerHouse h = plainHouse();
+        House h = plainHouse();
         int[][] none = {{-1, 0}, {251, 0}, {0, -1}, {0, 251}, {Integer.MIN_VALUE, 0}, {0, Integer.MAX_VALUE}};
         give(h, 0, 0, 10, 1);
         for (int[] c : none) {
@@ -293,7 +192,7 @@ public final class PromisesTest {
     }
 
     private static void promise6LostAndTurned() {
-        BearerHouse h = plainHouse();
+        House h = plainHouse();
         give(h, 0, 0, 3, 1);
         due("tick 1: lost", h.tick(20, 0, 1), 1);
         due("tick 2", h.tick(20, 0, 0), 0);
@@ -307,7 +206,7 @@ public final class PromisesTest {
         idle(h, 3);
         due("tick 13: empty", h.tick(0, 0, 0), 0);
 
-        BearerHouse k = plainHouse();
+        House k = plainHouse();
         give(k, 1, 0, 3, 1);
         due("came, turned", k.tick(0, 20, 8), 10);
         idle(k, 3);
@@ -324,7 +223,7 @@ public final class PromisesTest {
     }
 
     private static void promise7Renew() {
-        BearerHouse h = new BearerHouse(2, 99);
+        House h = new House(2, 99);
         give(h, 0, 0, 10, 1);
         give(h, 0, 0, 20, 1);
         h.tick(14, 0, 2);
@@ -332,8 +231,8 @@ public final class PromisesTest {
         due("a process has a block", h.process(0, 2, 0), 1);
         due("EPOCH", h.renew(), 1);
         due("all processes are empty", h.process(0, 2, 0) + h.process(0, 2, 1) + h.process(0, 2, 2), 0);
-        dueAll("the sender", asks(h, 's', 0, 0), 0, 0, 2, 2 + 11 + 21, 0, 0, 0, 4, 2, 0, 0, 2);
-        dueAll("the receiver", asks(h, 'r', 1, 0), 0, 0, 0, 0, 0, 0, 0, 0, 0, 1, 0, NONE);
+        dueAll("the sender", senderAsked(h, 0, 0, upTo(12)), 0, 0, 2, 2 + 11 + 21, 0, 0, 0, 4, 2, 0, 0, 2);
+        dueAll("the receiver", receiverAsked(h, 1, 0, upTo(12)), 0, 0, 0, 0, 0, 0, 0, 0, 0, 1, 0, NONE);
         due("a REPORT waits on each bearer", h.sender(1, 1, 3), 2);
         due("EPOCH 2", h.renew(), 2);
         due("one REPORT alone", h.sender(0, 0, 3), 34);
@@ -349,7 +248,7 @@ public final class PromisesTest {
     }
 
     private static void promise7RenewWithHoles() {
-        BearerHouse h = plainHouse();
+        House h = plainHouse();
         for (int i = 0; i < 4; i++) {
             give(h, 0, 0, 5, 10 * i);
         }
@@ -360,7 +259,7 @@ public final class PromisesTest {
         due("bytes that wait to be handed", h.receiver(1, 0, 7), 6 + 4);
         due("no unit yet", h.delivered(1, 0, 3), 0);
         h.renew();
-        dueAll("unit 1 is STORED, unit 3 is not", asks(h, 'd', 1, 0), 0, 0, 0, 1, 0, 0);
+        dueAll("unit 1 is STORED, unit 3 is not", deliveredAsked(h, 1, 0, upTo(6)), 0, 0, 0, 1, 0, 0);
         due("its REPORT has a byte of bits", h.sender(1, 0, 3), 3);
         due("all is KEPT", h.sender(0, 0, 2), 4);
         due("all waits again", h.sender(0, 0, 3), 2 + 4 * 6);
@@ -375,7 +274,7 @@ public final class PromisesTest {
         due("all came", h.delivered(1, 0, 0), 4);
         due("the last one", h.unit(1, 0, 0), 30);
 
-        BearerHouse k = plainHouse();
+        House k = plainHouse();
         for (int i = 0; i < 3; i++) {
             give(k, 0, 0, 5, 10 * i);
         }
@@ -387,8 +286,8 @@ public final class PromisesTest {
         due("and takes the packet out", k.sender(0, 0, 3), 2 + 6 + 6);
     }
 
-    private static void promise8Block() throws Exception {
-        BearerHouse h = plainHouse();
+    private static void promise8Block() {
+        House h = plainHouse();
         give(h, 0, 0, 4, 200);
         h.tick(16, 16, 0);
         int[] packet = packet(row(4, 200), 1234, 0, 0, 0, 0);
@@ -416,7 +315,7 @@ public final class PromisesTest {
     }
 
     private static void promise8Lengths() {
-        BearerHouse h = plainHouse();
+        House h = plainHouse();
         give(h, 0, 0, 2, 0);
         give(h, 0, 0, 3, 0);
         give(h, 0, 0, 4, 0);
@@ -426,18 +325,18 @@ public final class PromisesTest {
         dueAll("the other packets' first bytes", new int[] {block[9], block[13]}, 129, 130);
         due("all came", h.delivered(1, 0, 0), 3);
 
-        BearerHouse k = plainHouse();
+        House k = plainHouse();
         give(k, 0, 0, 2, 0);
         give(k, 0, 0, 2, 0);
         k.tick(2 + 6, 0, 0);
         dueAll("a byte behind a packet's last costs two", part(blockOf(k, 0), 0, 5), 0, 5, 128, 0, 128);
-        BearerHouse m = plainHouse();
+        House m = plainHouse();
         give(m, 0, 0, 2, 0);
         give(m, 0, 0, 2, 0);
         m.tick(2 + 7, 0, 0);
         dueAll("and has room here", blockOf(m, 0)[8] == 129 ? part(blockOf(m, 0), 0, 5) : new int[0],
             0, 7, 128 + 8 + 4, 0, 3);
-        BearerHouse n = plainHouse();
+        House n = plainHouse();
         for (int i = 0; i < 3; i++) {
             give(n, 0, 0, 120, 0);
         }
@@ -447,28 +346,23 @@ public final class PromisesTest {
         due("what waits", n.sender(0, 0, 3), 3 * 121 - 240 - 1);
     }
 
-    private static void promise8Ciphers() throws Exception {
+    private static void promise8Ciphers() {
         int seed = 0xF1E2D3C4;
-        BearerHouse h = new BearerHouse(3, seed);
-        int[][] places = {{0, 0}, {0, 1}, {0, 2}, {1, 0}, {1, 1}, {1, 2}};
-        for (int epoch = 0; epoch < 10; epoch++) {
-            for (int[] at : places) {
-                int count = give(h, at[0], at[1], 60, 7 * epoch);
-                h.tick(250, 250, 0);
-                int[] packet = packet(row(60, 7 * epoch), seed, epoch, count, at[0], at[1]);
-                due("it stands in the block whole", contains(blockOf(h, at[0]), packet) ? 1 : 0, 1);
-                h.rate(at[1], 200);
-                h.tick(250, 250, 0);
-                due("delivered", h.delivered(1 - at[0], at[1], 0), count + 1);
+        for (int place = 0; place < 6; place++) {
+            int peer = place / 3;
+            int bearer = place % 3;
+            House h = new House(3, seed);
+            for (int b = 0; b < 3; b++) {
+                h.rate(b, 200);
             }
-            idle(h, 12);
-            for (int i = 0; i < 8; i++) {
-                h.tick(250, 250, 0);
-            }
-            h.renew();
-            h.tick(250, 250, 0);
-            for (int i = 0; i < 8; i++) {
-                h.tick(250, 250, 0);
+            for (int epoch = 0; epoch < 3; epoch++) {
+                int count = give(h, peer, bearer, 60, 7 * epoch);
+                h.tick(110, 110, 0);
+                int[] packet = packet(row(60, 7 * epoch), seed, epoch, count, peer, bearer);
+                due("it stands in the block whole", contains(blockOf(h, peer), packet), true);
+                due("delivered", h.delivered(1 - peer, bearer, 0), count + 1);
+                h.tick(110, 110, 0);
+                h.renew();
             }
         }
     }
@@ -479,20 +373,11 @@ public final class PromisesTest {
                 return true;
             }
         }
-        // A packet may be cut once, behind which five bytes of the next PART stand ahead of its rest.
-        for (int cut = 1; cut < some.length; cut++) {
-            for (int i = 0; i + some.length + 4 <= row.length; i++) {
-                if (java.util.Arrays.equals(part(row, i, i + cut), part(some, 0, cut))
-                    && java.util.Arrays.equals(part(row, i + cut + 4, i + 4 + some.length), part(some, cut, some.length))) {
-                    return true;
-                }
-            }
-        }
         return false;
     }
 
     private static void promise9Sender() {
-        BearerHouse h = plainHouse();
+        House h = plainHouse();
         due("sender(2, 0, 0)", h.sender(2, 0, 0), NONE);
         due("sender(-1, 0, 0)", h.sender(-1, 0, 0), NONE);
         due("sender(0, 1, 0)", h.sender(0, 1, 0), NONE);
@@ -505,14 +390,14 @@ public final class PromisesTest {
         h.tick(24, 0, 0);
         h.tick(24, 0, 0);
         // 20 bytes, then 11 and 7 with a LENGTH and 2 ahead of them: 20 with the LENGTH + 2.
-        dueAll("two pieces", asks(h, 's', 0, 0), 0, 2, 2, 3, 0, 0, 0, -24 - 24, 2, 0, 0, 2);
+        dueAll("two pieces", senderAsked(h, 0, 0, upTo(12)), 0, 2, 2, 3, 0, 0, 0, -24 - 24, 2, 0, 0, 2);
         h.tick(24, 20, 0);
-        dueAll("all out, with POLL, confirmed at once", asks(h, 's', 0, 0), 3, 3, 0, 0, 0, 0, 0, -48 - 7, 3, 0, 1, 2);
+        dueAll("all out, with POLL, confirmed at once", senderAsked(h, 0, 0, upTo(12)), 3, 3, 0, 0, 0, 0, 0, -48 - 7, 3, 0, 1, 2);
         due("the STATUS goes off the BUCKET, too", h.sender(1, 0, 7), -4);
     }
 
     private static void promise9PartsAndRuns() {
-        BearerHouse h = plainHouse();
+        House h = plainHouse();
         give(h, 0, 0, 20, 0);
         h.tick(25, 0, GONE_0);
         due("the POLL timer runs", h.sender(0, 0, 5), 10);
@@ -521,16 +406,16 @@ public final class PromisesTest {
         h.tick(10, 0, 0);
         int[] first = blockOf(h, 0);
         dueAll("a PART of five bytes with POLL", part(first, 0, 6), 0, 8, 128 + 64 + 32 + 8, 0, 0, 128);
-        dueAll("the sender", asks(h, 's', 0, 0), 0, 1, 1, 0, 16, 10, 0, -25 - 10, 2, 1, 0, 1);
+        dueAll("the sender", senderAsked(h, 0, 0, upTo(12)), 0, 1, 1, 0, 16, 10, 0, -25 - 10, 2, 1, 0, 1);
         h.tick(10, 0, GONE_0);
         dueAll("the next five", part(blockOf(h, 0), 0, 5), 0, 8, 128 + 64 + 16 + 8, 0, 5);
         h.tick(25, 0, 0);
         dueAll("up to the end", part(blockOf(h, 0), 0, 5), 0, 14, 128 + 64 + 32 + 16, 128, 10);
-        dueAll("the receiver", asks(h, 'r', 1, 0), 0, 1, 0, 1, 4, 0, 0, 16, 0, 2, 0, 0);
+        dueAll("the receiver", receiverAsked(h, 1, 0, upTo(12)), 0, 1, 0, 1, 4, 0, 0, 16, 0, 2, 0, 0);
         idle(h, 3);
         h.tick(0, 20, 0);
         dueAll("a STATUS of one run", part(blockOf(h, 1), 0, 8), 0, 5, 1, 1, 128, 5, 9, 255);
-        dueAll("the run is in AGAIN", asks(h, 's', 0, 0), 0, 1, 1, 0, 5, 0, 0, -25 - 10 - 10 - 16, 4, 3, 1, 1);
+        dueAll("the run is in AGAIN", senderAsked(h, 0, 0, upTo(12)), 0, 1, 1, 0, 5, 0, 0, -25 - 10 - 10 - 16, 4, 3, 1, 1);
         h.tick(5, 0, 0);
         due("3 bytes are too few for a PART", h.block(0, -1), NONE);
         h.tick(6, 0, 0);
@@ -539,7 +424,7 @@ public final class PromisesTest {
         due("delivered", h.delivered(1, 0, 0), 1);
         due("its bytes", h.unit(1, 0, 19), 19);
 
-        BearerHouse k = plainHouse();
+        House k = plainHouse();
         give(k, 0, 0, 20, 0);
         k.tick(25, 0, GONE_0);
         idle(k, 9);
@@ -553,7 +438,7 @@ public final class PromisesTest {
 
     /** Every second byte of a piece is missing, of which there are runs then; block of peer 1 with its STATUS. */
     private static int[] statusOfRuns(int runs, int g) {
-        BearerHouse h = plainHouse();
+        House h = plainHouse();
         int packet = 2 * runs + 1;
         give(h, 0, 0, packet - 1, 0);
         h.tick(packet + 4, 0, GONE_0);
@@ -580,7 +465,7 @@ public final class PromisesTest {
 
     private static void promise9StatusOfManyPieces() {
         for (int g = 18; g <= 19; g++) {
-            BearerHouse h = plainHouse();
+            House h = plainHouse();
             give(h, 0, 0, 120, 0);
             for (int i = 0; i < 16; i++) {
                 h.tick(10, 0, i < 15 ? GONE_0 : 0);
@@ -600,7 +485,7 @@ public final class PromisesTest {
     }
 
     private static void promise9Fails() {
-        BearerHouse h = plainHouse();
+        House h = plainHouse();
         give(h, 0, 0, 3, 0);
         h.tick(20, 0, GONE_0);
         for (int tries = 1; tries <= 5; tries++) {
@@ -622,7 +507,7 @@ public final class PromisesTest {
     }
 
     private static void promise9Polls() {
-        BearerHouse h = plainHouse();
+        House h = plainHouse();
         give(h, 0, 0, 120, 0);
         int[] heads = new int[9];
         for (int i = 0; i < heads.length; i++) {
@@ -650,7 +535,7 @@ public final class PromisesTest {
     }
 
     private static void promise10Receiver() {
-        BearerHouse h = plainHouse();
+        House h = plainHouse();
         int[][] none = {{2, 0, 0}, {-1, 0, 0}, {0, 1, 0}, {0, -1, 0}, {0, 0, -1}, {0, 0, 12}, {0, 0, Integer.MAX_VALUE}};
         for (int[] c : none) {
             due("receiver(" + c[0] + ", " + c[1] + ", " + c[2] + ")", h.receiver(c[0], c[1], c[2]), NONE);
@@ -658,31 +543,31 @@ public final class PromisesTest {
         give(h, 0, 0, 120, 0);
         h.tick(14, 0, GONE_0);
         h.tick(14, 0, 0);
-        dueAll("piece 0 is missing", asks(h, 'r', 1, 0), 0, 2, 0, 2, 6, 0, 0, 10, 0, 1, 0, NONE);
+        dueAll("piece 0 is missing", receiverAsked(h, 1, 0, upTo(12)), 0, 2, 0, 2, 6, 0, 0, 10, 0, 1, 0, NONE);
         h.tick(14, 0, GONE_0);
         h.tick(14, 0, 0);
-        dueAll("and piece 2; POLL in 3", asks(h, 'r', 1, 0), 0, 4, 0, 2, 4, 0, 0, 20, 0, 2, 0, 3);
+        dueAll("and piece 2; POLL in 3", receiverAsked(h, 1, 0, upTo(12)), 0, 4, 0, 2, 4, 0, 0, 20, 0, 2, 0, 3);
         idle(h, 3);
         h.tick(0, 0, 0);
-        dueAll("the REORDER timer ended", asks(h, 'r', 1, 0), 0, 4, 2, 4, 6, 0, 1, 20, 0, 2, 0, 3);
+        dueAll("the REORDER timer ended", receiverAsked(h, 1, 0, upTo(12)), 0, 4, 2, 4, 6, 0, 1, 20, 0, 2, 0, 3);
         h.tick(0, 20, 0);
         dueAll("a STATUS", part(blockOf(h, 1), 0, 6), 0, 3, 1, 2, 0, 255);
-        dueAll("PROHIBIT runs", asks(h, 'r', 1, 0), 0, 4, 2, 4, 5, 5, 0, 20, 1, 2, 0, 3);
+        dueAll("PROHIBIT runs", receiverAsked(h, 1, 0, upTo(12)), 0, 4, 2, 4, 5, 5, 0, 20, 1, 2, 0, 3);
         due("piece 1 is confirmed, 0 isn't", h.sender(0, 0, 0), 0);
         due("piece 0 is in AGAIN", h.sender(0, 0, 4), 10);
         h.tick(14, 20, 0);
-        dueAll("piece 0 came", asks(h, 'r', 1, 0), 2, 4, 2, 4, 4, 4, 0, 10, 1, 3, 0, 3);
+        dueAll("piece 0 came", receiverAsked(h, 1, 0, upTo(12)), 2, 4, 2, 4, 4, 4, 0, 10, 1, 3, 0, 3);
         idle(h, 4);
-        dueAll("MS passes POLLS", asks(h, 'r', 1, 0), 2, 4, 4, 4, 0, 0, 1, 10, 1, 3, 0, NONE);
+        dueAll("MS passes POLLS", receiverAsked(h, 1, 0, upTo(12)), 2, 4, 4, 4, 0, 0, 1, 10, 1, 3, 0, NONE);
         h.tick(0, 20, 0);
         dueAll("a STATUS again", part(blockOf(h, 1), 0, 6), 0, 3, 1, 4, 2, 255);
         h.tick(14, 20, 0);
         // The POLL timer, which the POLL in piece 3 began, has ended: there was POLL in it.
-        dueAll("all came", asks(h, 'r', 1, 0), 4, 4, 4, 4, 0, 4, 1, 0, 2, 4, 0, NONE);
+        dueAll("all came", receiverAsked(h, 1, 0, upTo(12)), 4, 4, 4, 4, 0, 4, 1, 0, 2, 4, 0, NONE);
     }
 
     private static void promise11Delivered() {
-        BearerHouse h = plainHouse();
+        House h = plainHouse();
         int[][] none = {{2, 0, 0}, {-1, 0, 0}, {0, 1, 0}, {0, -1, 0}, {0, 0, -1}, {0, 0, 6}, {0, 0, Integer.MIN_VALUE}};
         for (int[] c : none) {
             due("delivered(" + c[0] + ", " + c[1] + ", " + c[2] + ")", h.delivered(c[0], c[1], c[2]), NONE);
@@ -692,23 +577,21 @@ public final class PromisesTest {
         h.tick(0, 60, 0);
         int sum = 31 * (31 * (31 * 0 + 2) + 250) + 251;
         sum = 31 * (31 * sum + 1) + 9;
-        dueAll("two units", asks(h, 'd', 0, 0), 2, 3, 0, 0, sum, 1);
-        dueAll("none at the other peer", asks(h, 'd', 1, 0), 0, 0, 0, 0, 0, 0);
+        dueAll("two units", deliveredAsked(h, 0, 0, upTo(6)), 2, 3, 0, 0, sum, 1);
+        dueAll("none at the other peer", deliveredAsked(h, 1, 0, upTo(6)), 0, 0, 0, 0, 0, 0);
         h.renew();
         h.tick(0, 60, 0);
-        dueAll("they come twice", asks(h, 'd', 0, 0), 2, 3, 2, 0, sum, 1);
+        dueAll("they come twice", deliveredAsked(h, 0, 0, upTo(6)), 2, 3, 2, 0, sum, 1);
         for (int i = 2; i < 90; i++) {
             give(h, 1, 0, 1, i);
             h.tick(60, 60, 0);
-            sum = 31 * (31 * sum + 1) + i;
-            idle(h, 5);
-            h.tick(60, 0, 0);
+            sum = sumOf(sum, new int[] {i});
         }
-        dueAll("COUNTS and numbers go over 63, and the sum wraps", asks(h, 'd', 0, 0), 90, 91, 2, 0, sum, 1);
+        dueAll("COUNTS and numbers go over 63, and the sum wraps", deliveredAsked(h, 0, 0, upTo(6)), 90, 91, 2, 0, sum, 1);
     }
 
     private static void promise12Unit() {
-        BearerHouse h = new BearerHouse(2, 5);
+        House h = new House(2, 5);
         due("none yet", h.unit(1, 1, 0), NONE);
         give(h, 0, 1, 3, 40);
         h.tick(50, 50, 0);
@@ -728,7 +611,7 @@ public final class PromisesTest {
     }
 
     private static void promise13Process() {
-        BearerHouse h = plainHouse();
+        House h = plainHouse();
         int[][] none = {{2, 0, 0}, {-1, 0, 0}, {0, 4, 0}, {0, -1, 0}, {0, 0, -1}, {0, 0, 3}, {0, Integer.MAX_VALUE, 0}};
         for (int[] c : none) {
             due("process(" + c[0] + ", " + c[1] + ", " + c[2] + ")", h.process(c[0], c[1], c[2]), NONE);
@@ -747,7 +630,7 @@ public final class PromisesTest {
     }
 
     private static void promise14World() {
-        BearerHouse h = plainHouse();
+        House h = plainHouse();
         int[] none = {-1, 7, Integer.MIN_VALUE, Integer.MAX_VALUE};
         for (int what : none) {
             due("world(" + what + ")", h.world(what), NONE);
@@ -759,9 +642,9 @@ public final class PromisesTest {
         h.tick(0, 0, 1 + 2 + 8);
         idle(h, 3);
         h.tick(0, 0, 1);
-        dueAll("world", asks(h, 'w', 0, 0), 9, 0, 5, 5, 1, 1, 0);
+        dueAll("world", worldAsked(h), 9, 0, 5, 5, 1, 1, 0);
         h.renew();
         h.tick(40, 40, 0);
-        dueAll("world then", asks(h, 'w', 0, 0), 10, 1, 7, 5, 1, 1, 3);
+        dueAll("world then", worldAsked(h), 10, 1, 7, 5, 1, 1, 3);
     }
 }
