@@ -392,7 +392,8 @@ public final class PromisesTest extends Bench {
         // 20 bytes, then 11 and 7 with a LENGTH and 2 ahead of them: 20 with the LENGTH + 2.
         dueAll("two pieces", senderAsked(h, 0, 0, upTo(12)), 0, 2, 2, 3, 0, 0, 0, -24 - 24, 2, 0, 0, 2);
         h.tick(24, 20, 0);
-        dueAll("all out, with POLL, confirmed at once", senderAsked(h, 0, 0, upTo(12)), 3, 3, 0, 0, 0, 0, 0, -48 - 7, 3, 0, 1, 2);
+        dueAll("all out, with POLL, confirmed at once", senderAsked(h, 0, 0, upTo(12)),
+            3, 3, 0, 0, 0, 0, 0, -48 - 7, 3, 0, 1, 2);
         due("the STATUS goes off the BUCKET, too", h.sender(1, 0, 7), -4);
     }
 

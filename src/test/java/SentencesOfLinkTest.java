@@ -42,7 +42,8 @@ public final class SentencesOfLinkTest extends Bench {
     }
 
     private static void ticks() {
-        of(TERMS, "the REORDER and the PROHIBIT timer of RECEIVER(p, b) that run go down by one; at 0 they run no more,",
+        of(TERMS, "A TICK: for each peer, and there for each bearer: the POLL timer of SENDER(p, b), the REORDER and the"
+            + " PROHIBIT timer of RECEIVER(p, b) that run go down by one; at 0 they run no more, and:",
             SentencesOfLinkTest::timersGoDown);
         of(TERMS, "POLL: ASKED goes on,", SentencesOfLinkTest::askedAtTheEnd);
         of(TERMS, "and if AGAIN is empty,", SentencesOfLinkTest::notIfAgainHasBytes);
@@ -66,8 +67,9 @@ public final class SentencesOfLinkTest extends Bench {
     }
 
     private static void renewals() {
-        of(TERMS, "each RECEIVER goes through its pieces from R to below H: WHOLE ones are HANDED, at others what was begun"
-            + " of a packet is gone", SentencesOfLinkTest::holesEndWhatWasBegun);
+        of(TERMS, "THE LINK IS MADE ANEW, in this order: each RECEIVER goes through its pieces from R to below H: WHOLE"
+            + " ones are HANDED, at others what was begun of a packet is gone", SentencesOfLinkTest::holesEndWhatWasBegun);
+        of(TERMS, "(behind the last one, too);", SentencesOfLinkTest::goneBehindTheLast);
         of(TERMS, "then it has none: R, H, MS, X 0, no POLLS, nothing WANTED, its timers don't run.",
             SentencesOfLinkTest::receiverAnew);
         of(TERMS, "Each SENDER: no pieces, nothing in AGAIN, A and S 0,", SentencesOfLinkTest::senderAnew);
@@ -114,7 +116,8 @@ public final class SentencesOfLinkTest extends Bench {
         House full = plainHouse();
         giveAll(full, 3);
         full.tick(8, 0, 0);
-        dueAll("no room", air(full, 0, 0, 9), 0, 6, 128 + 32, 0, 128, packet(3, 0)[1], packet(3, 0)[2], packet(3, 0)[3], NONE);
+        dueAll("no room", air(full, 0, 0, 5), 0, 6, 128 + 32, 0, 128);
+        dueAll("the packet ends the block", air(full, 0, 5, 9), packet(3, 0)[1], packet(3, 0)[2], packet(3, 0)[3], NONE);
         House one = plainHouse();
         giveAll(one, 3);
         one.tick(9, 0, 0);
@@ -385,6 +388,15 @@ public final class SentencesOfLinkTest extends Bench {
         due("POLL", h.sender(0, 0, POLL_TIMER), 1);
         idle(h, 1);
         due("at 0", h.sender(0, 0, POLL_TIMER), 0);
+        House all = new House(3, 1);
+        for (int place = 0; place < 6; place++) {
+            give(all, place / 3, place % 3, 3, 0);
+        }
+        all.tick(60, 60, GONE_0 + GONE_1);
+        idle(all, 4);
+        for (int place = 0; place < 6; place++) {
+            due("of each peer and bearer", all.sender(place / 3, place % 3, POLL_TIMER), 6);
+        }
     }
 
     /** A lost piece, and then something WAITING, so that the POLL timer's end brings nothing to AGAIN. */
@@ -437,6 +449,15 @@ public final class SentencesOfLinkTest extends Bench {
         dueAll("16 are out, and more is WAITING", senderAsked(h, 0, 0, S, WAITING, POLL_TIMER), 16, 121 - 48, 10);
         idle(h, 10);
         dueAll("piece A is in AGAIN", senderAsked(h, 0, 0, AGAIN, POLL_TIMER), 3, 0);
+        House later = plainHouse();
+        giveAll(later, 1);
+        later.tick(20, 20, 0);
+        giveAll(later, 120);
+        for (int i = 0; i < 16; i++) {
+            later.tick(7, 0, GONE_0);
+        }
+        idle(later, 10);
+        dueAll("A is 1, which is in AGAIN", senderAsked(later, 0, 0, A, S, AGAIN), 1, 17, 3);
     }
 
     private static void fiveTriesOfTheTimer() {
@@ -625,6 +646,9 @@ public final class SentencesOfLinkTest extends Bench {
         h.rate(0, 50);
         idle(h, 2);
         due("300 is above 250", h.sender(0, 0, BUCKET), 300);
+        h.rate(0, 59);
+        idle(h, 2);
+        due("300 is above 295", h.sender(0, 0, BUCKET), 300);
         h.rate(0, 60);
         idle(h, 1);
         due("300 is 5 * 60", h.sender(0, 0, BUCKET), 300);
@@ -653,6 +677,17 @@ public final class SentencesOfLinkTest extends Bench {
         due("all of a packet came, but not its piece", part.receiver(1, 0, HELD), 3);
         part.renew();
         dueAll("nothing of it is HANDED", deliveredAsked(part, 1, 0, NEXT, STORED), 0, 0);
+    }
+
+    /** A REPORT goes first then, whose first byte would end what was begun, too. */
+    private static void goneBehindTheLast() {
+        House h = plainHouse();
+        give(h, 0, 0, 9, 30);
+        h.tick(9, 0, 0);
+        due("a packet is begun, and no piece behind", h.receiver(1, 0, R) - h.receiver(1, 0, H), 0);
+        h.renew();
+        h.tick(40, 0, 0);
+        dueAll("it comes from its first byte on", deliveredAsked(h, 1, 0, NEXT, SUM), 1, sumOf(0, row(9, 30)));
     }
 
     private static void receiverAnew() {
@@ -807,6 +842,15 @@ public final class SentencesOfLinkTest extends Bench {
         order.renew();
         due("all anew", order.sender(0, 0, WAITING), 2 + 2 + 3 + 4);
         order.tick(40, 0, 0);
+        House hole = plainHouse();
+        giveAll(hole, 1, 2, 3);
+        hole.tick(6, 0, GONE_0);
+        hole.tick(7, 0, 0);
+        hole.renew();
+        hole.tick(0, 20, 0);
+        due("unit 1 is confirmed", hole.sender(0, 0, KEPT), 2);
+        hole.renew();
+        due("units 0 and 2 alone", hole.sender(0, 0, WAITING), 2 + 2 + 4);
         dueAll("the REPORT, then 0, 1, 2", air(order, 0, 2, 7), 128 + 32 + 4, 0, 128 + 2, 128 + 2, 3);
         dueAll("their first bytes", new int[] {order.block(0, 7), order.block(0, 9), order.block(0, 11), order.block(0, 14)},
             0, 128, 129, 130);
@@ -816,14 +860,17 @@ public final class SentencesOfLinkTest extends Bench {
     private static void receiversFirst() {
         for (int peer = 0; peer < 2; peer++) {
             House h = plainHouse();
-            give(h, peer, 0, 1, 0);
-            give(h, peer, 0, 1, 0);
+            give(h, peer, 0, 1, 7);
+            give(h, peer, 0, 1, 9);
             h.tick(6, 6, peer == 0 ? GONE_0 : GONE_1);
             h.tick(6, 6, 0);
             h.renew();
             due("STORED", h.delivered(1 - peer, 0, STORED), 1);
             due("the REPORT has a byte of bits", h.sender(1 - peer, 0, WAITING), 3);
             due("both units are KEPT", h.sender(peer, 0, KEPT), 2);
+            h.tick(40, 40, 0);
+            int sum = sumOf(sumOf(0, row(1, 7)), row(1, 9));
+            due("deciphered by the KEYS of their EPOCHS", h.delivered(1 - peer, 0, SUM), sum);
         }
     }
 }

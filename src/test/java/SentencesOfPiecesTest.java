@@ -19,6 +19,7 @@ public final class SentencesOfPiecesTest extends Bench {
     private static void heads() {
         of(TERMS, "DATA on the air: a byte 128, + 64 if it is a PART (of the field),",
             SentencesOfPiecesTest::onlyLessThanTheFieldIsAPart);
+        of(TERMS, "+ 32 with POLL,", SentencesOfPiecesTest::pollOnTheAir);
         of(TERMS, "+ 16 if its first byte is not the first of a packet,", SentencesOfPiecesTest::beginsInsideAPacket);
         of(TERMS, "+ 8 if its last byte is not the last of one,", SentencesOfPiecesTest::endsInsideAPacket);
         of(TERMS, "+ 4 with LENGTHS;", SentencesOfPiecesTest::noLengthsWithoutAnotherByteBehind);
@@ -107,6 +108,15 @@ public final class SentencesOfPiecesTest extends Bench {
         giveAll(cut, 5);
         cut.tick(6, 0, 0);
         dueAll("a field that ends inside a packet is none", air(cut, 0, 0, 4), 0, 4, 128 + 8, 0);
+    }
+
+    private static void pollOnTheAir() {
+        House h = plainHouse();
+        giveAll(h, 5);
+        h.tick(9, 0, 0);
+        dueAll("without", new int[] {h.block(0, 2), h.receiver(1, 0, WANTED)}, 128 + 8, 0);
+        h.tick(9, 0, 0);
+        dueAll("with", new int[] {h.block(0, 2), h.receiver(1, 0, WANTED)}, 128 + 32 + 16, 1);
     }
 
     /** Packets of 3 and of 4 bytes in one field of 7, of which a PART begins at 3 and another at 4. */
@@ -327,6 +337,12 @@ public final class SentencesOfPiecesTest extends Bench {
         House less = lostPiece(2, 3);
         less.tick(2 + 2 + 1 + 6, 0, 0);
         dueAll("it doesn't by a byte", air(less, 0, 0, 6), 0, 9, 128 + 64 + 32 + 8 + 4, 0, 0, 3);
+        for (int n = 9; n <= 10; n++) {
+            House cut = lastByteOfAPacketAgain();
+            cut.tick(2 + n, 0, 0);
+            dueAll("a field with a packet's last byte ahead, n is " + n, air(cut, 0, 1, 4), n,
+                128 + 16 + 4 + (n == 9 ? 64 + 8 : 32), 1);
+        }
         House tiny = plainHouse();
         giveAll(tiny, 1);
         tiny.tick(5, 0, GONE_0);
@@ -337,6 +353,19 @@ public final class SentencesOfPiecesTest extends Bench {
         dueAll("which goes as it did first", blockOf(tiny, 0), 0, 3, 128 + 32 + 8, 0, 128);
     }
 
+    /** Piece 1, in AGAIN, has the last byte of a packet, and another one of six bytes. */
+    private static House lastByteOfAPacketAgain() {
+        House h = plainHouse();
+        giveAll(h, 5, 5, 5);
+        h.tick(9, 0, 0);
+        h.tick(12, 0, GONE_0);
+        h.tick(10, 0, 0);
+        idle(h, 5);
+        h.tick(0, 20, 0);
+        due("AGAIN", h.sender(0, 0, AGAIN), 7);
+        return h;
+    }
+
     private static void partOf4BytesOrMore() {
         House h = lostPiece(5);
         due("n is 3", h.tick(5, 0, 0), 0);
@@ -345,9 +374,29 @@ public final class SentencesOfPiecesTest extends Bench {
         h.tick(8, 0, 0);
         dueAll("n is 6: three bytes, from the run's first on", blockOf(h, 0), 0, 6, 128 + 64 + 16 + 8, 0, 1,
             packet(5, 0)[1], packet(5, 0)[2], packet(5, 0)[3]);
+        House run = threeOfTenMissing();
+        run.tick(2 + 5, 0, 0);
+        dueAll("n is 5: two of three, though the run begins the field", air(run, 0, 0, 5), 0, 5, 128 + 64 + 8, 0, 0);
+        run.tick(2 + 4, 0, 0);
+        dueAll("n is 4: the third", air(run, 0, 0, 5), 0, 4, 128 + 64 + 32 + 16 + 8, 0, 2);
+        House last = lostPiece(9);
+        last.tick(12, 0, 0);
+        last.tick(2 + 5, 0, 0);
+        dueAll("n is 5: two of three, though the run ends the field", air(last, 0, 0, 5), 0, 5, 128 + 64 + 16 + 8, 0, 7);
         House two = lostPiece(2, 3);
         two.tick(9, 0, 0);
         dueAll("no room for a LENGTH and the byte behind", air(two, 0, 0, 5), 0, 6, 128 + 64 + 32, 0, 0);
+    }
+
+    /** Of a field of ten bytes the first three are missing, and in AGAIN. */
+    private static House threeOfTenMissing() {
+        House h = lostPiece(9);
+        h.tick(8, 0, GONE_0);
+        h.tick(20, 0, 0);
+        idle(h, 5);
+        h.tick(0, 250, 0);
+        due("AGAIN", h.sender(0, 0, AGAIN), 3);
+        return h;
     }
 
     private static void nothingNewAheadOfAgain() {
@@ -381,7 +430,11 @@ public final class SentencesOfPiecesTest extends Bench {
         due("no more", h.tick(250, 0, 0), 0);
         h.tick(0, 4, 0);
         due("all are confirmed", h.sender(0, 0, A), 16);
-        due("then more go", h.tick(6, 0, 0), 5);
+        for (int i = 16; i < 32; i++) {
+            due("piece " + i, h.tick(6, 0, 0), 5);
+        }
+        due("S - A is 16 again", h.sender(0, 0, S), 32);
+        due("no more", h.tick(250, 0, 0), 0);
     }
 
     private static void newPieceOf3BytesOrMore() {
@@ -483,6 +536,27 @@ public final class SentencesOfPiecesTest extends Bench {
         // Pieces 4, 8 and 12 have it as the fourth DATA each; piece 15 would be the third.
         dueAll("pieces 1 to 15", heads, 0, 0, 0, 32, 0, 0, 0, 32, 0, 0, 0, 32, 0, 0, 32);
         due("S - A is 16", h.sender(0, 0, S), 16);
+        House later = plainHouse();
+        giveAll(later, 1);
+        later.tick(20, 20, 0);
+        giveAll(later, 1);
+        later.tick(20, 0, GONE_0);
+        giveAll(later, 120);
+        for (int i = 0; i < 15; i++) {
+            later.tick(6, 0, 0);
+            heads[i] = later.block(0, 2) & 32;
+        }
+        dueAll("pieces 2 to 16, when A is 1", heads, 0, 0, 0, 32, 0, 0, 0, 32, 0, 0, 0, 32, 0, 0, 32);
+        House again = plainHouse();
+        giveAll(again, 120);
+        for (int i = 0; i < 16; i++) {
+            again.tick(7, 0, GONE_0);
+        }
+        idle(again, 10);
+        for (int left = 2; left >= 0; left--) {
+            again.tick(6, 0, 0);
+            dueAll("each PART of piece 0, too", new int[] {again.block(0, 2) & 32, again.sender(0, 0, AGAIN)}, 32, left);
+        }
     }
 
     private static void askedGoesOff() {

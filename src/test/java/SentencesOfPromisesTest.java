@@ -17,8 +17,10 @@ public final class SentencesOfPromisesTest extends Bench {
     private static void newHouse() {
         of("What it is", "An object is used for at most 512 calls after it has been made;",
             SentencesOfPromisesTest::rightUpToTheLastCall);
+        of("The public face", "public static final int NONE = -1;", () -> due("NONE", BearerHouse.NONE, -1));
         of("Terms", "The constants: `NONE = -1`: None.", () -> due("NONE", BearerHouse.NONE, -1));
-        of("Promise 1", "A house with 1 to 3 BEARERS (another number means 2),", SentencesOfPromisesTest::anotherNumberMeans2);
+        of("Promise 1", "A house with 1 to 3 BEARERS (another number means 2),",
+            SentencesOfPromisesTest::anotherNumberMeans2);
         of("Promise 1", "and a SEED.", SentencesOfPromisesTest::anySeed);
     }
 
@@ -57,12 +59,14 @@ public final class SentencesOfPromisesTest extends Bench {
     }
 
     private static void looksAtSendersAndReceivers() {
-        of("Promise 9", "ticks the POLL timer runs yet (5; 0: it doesn't), FAILED (6: 1, else 0),",
+        of("Promise 9", "Of SENDER(peer, bearer): A (what 0), S (1), units KEPT (2), bytes WAITING (3), bytes in AGAIN (4),"
+            + " ticks the POLL timer runs yet (5; 0: it doesn't), FAILED (6: 1, else 0),",
             SentencesOfPromisesTest::whatASenderTells);
         of("Promise 9", "the BUCKET (7), DATA made (8), of these not new (9), STATUS that came (10), the next COUNT (11).",
             SentencesOfPromisesTest::whatASenderCounts);
         of("Promise 9", NONE_SUCH, SentencesOfPromisesTest::noSuchAskOfASender);
-        of("Promise 10", "WANTED (6: 1, else 0), bytes of pieces that are not HANDED (7),",
+        of("Promise 10", "Of RECEIVER(peer, bearer): R (what 0), H (1), MS (2), X (3), ticks the REORDER timer runs yet (4),"
+            + " the PROHIBIT timer (5), WANTED (6: 1, else 0), bytes of pieces that are not HANDED (7),",
             SentencesOfPromisesTest::whatAReceiverTells);
         of("Promise 10", "STATUS made (8), DATA that came (9), of these with no byte that hadn't (10; old ones, too),",
             SentencesOfPromisesTest::whatAReceiverCounts);
@@ -71,9 +75,12 @@ public final class SentencesOfPromisesTest extends Bench {
     }
 
     private static void looksAtTheRest() {
+        of("Promise 11", "At RECEIVER(peer, bearer), units DELIVERED (what 0, which is NEXT), their bytes (1), DOUBLES (2),"
+            + " units STORED (3),", SentencesOfPromisesTest::whatDeliveredTells);
         of("Promise 11", "a sum over all that was DELIVERED (4: 0 at first; for each unit s = 31 * s + how many bytes, then"
             + " s = 31 * s + byte for each; wrapping),", SentencesOfPromisesTest::sumsWrap);
-        of("Promise 11", "bytes of the latest one DELIVERED (5; 0 ahead of any).", SentencesOfPromisesTest::latestAheadOfAny);
+        of("Promise 11", "bytes of the latest one DELIVERED (5; 0 ahead of any).",
+            SentencesOfPromisesTest::latestAheadOfAny);
         of("Promise 11", NONE_SUCH, SentencesOfPromisesTest::noSuchAskOfDelivered);
         of("Promise 12", "Byte i of the latest unit that was DELIVERED there;", SentencesOfPromisesTest::latestUnit);
         of("Promise 12", NONE_SUCH, SentencesOfPromisesTest::noSuchUnit);
@@ -168,7 +175,8 @@ public final class SentencesOfPromisesTest extends Bench {
         due("one more", h.end(4), 4);
         h.send(0, 0);
         h.tick(100, 0, 0);
-        dueAll("its first", new int[] {h.unit(1, 0, 0), h.unit(1, 0, 2), h.unit(1, 0, 3), h.unit(1, 0, 4)}, 1, 3, 0x55, NONE);
+        dueAll("its first", new int[] {h.unit(1, 0, 0), h.unit(1, 0, 2), h.unit(1, 0, 3), h.unit(1, 0, 4)},
+            1, 3, 0x55, NONE);
         h.feed(1, 2, 3, 4, 5);
         due("none", h.end(0), 0);
         due("20 from the first on", h.feed(1, 2, 3, 4, 5), 20);
@@ -490,6 +498,23 @@ public final class SentencesOfPromisesTest extends Bench {
         for (int what : new int[] {-1, 12, LEAST, MOST}) {
             due("receiver(0, 0, " + what + ")", h.receiver(0, 0, what), NONE);
         }
+    }
+
+    private static void whatDeliveredTells() {
+        House h = plainHouse();
+        giveAll(h, 120, 1, 5);
+        h.tick(250, 0, GONE_0);
+        dueAll("nothing came", deliveredAsked(h, 1, 0, NEXT, BYTES, DOUBLES, STORED), 0, 0, 0, 0);
+        h.renew();
+        h.tick(2 + 2 + 1 + 2 + 121, 0, 0);
+        h.tick(6, 0, GONE_0);
+        h.tick(20, 0, 0);
+        dueAll("a unit of 120 bytes", deliveredAsked(h, 1, 0, NEXT, BYTES, DOUBLES, STORED), 1, 120, 0, 0);
+        h.renew();
+        dueAll("unit 2 is STORED", deliveredAsked(h, 1, 0, NEXT, BYTES, DOUBLES, STORED), 1, 120, 0, 1);
+        h.tick(250, 0, 0);
+        dueAll("units 0 and 2 are DOUBLES", deliveredAsked(h, 1, 0, NEXT, BYTES, DOUBLES, STORED), 3, 126, 2, 0);
+        dueAll("none at peer 0", deliveredAsked(h, 0, 0, NEXT, BYTES, DOUBLES, STORED), 0, 0, 0, 0);
     }
 
     private static void sumsWrap() {

@@ -117,6 +117,31 @@ public final class SentencesOfReceiverTest extends Bench {
         dueAll("all is left", receiverAsked(h, 1, 0, R, H, MS, X, REORDER, WANTED, HELD, POLLS), 1, 1, 1, 0, 0, 0, 0, NONE);
         dueAll("they count", receiverAsked(h, 1, 0, DATA_CAME, IN_VAIN), 3, 2);
         due("delivered once", h.delivered(1, 0, NEXT) + h.delivered(1, 0, DOUBLES), 1);
+        House late = oldPieceAmongNewOnes();
+        idle(late, 1);
+        dueAll("while POLLS and the REORDER timer stand", receiverAsked(late, 1, 0, R, H, MS, X, REORDER, POLLS),
+            1, 3, 1, 3, 4, 2);
+        House later = oldPieceAmongNewOnes();
+        later.tick(0, 0, 1);
+        idle(later, 4);
+        dueAll("when the REORDER timer has run", receiverAsked(later, 1, 0, R, H, MS, X, REORDER, DATA_CAME),
+            1, 3, 3, 3, 0, 3);
+    }
+
+    /**
+     * Piece 0, which has come, goes again in tick 11, but is lost; it is sent again in ticks 15, the next one, and 19.
+     * Piece 1 is gone, piece 2 came in tick 13, with POLL.
+     */
+    private static House oldPieceAmongNewOnes() {
+        House h = oldPieceSoon();
+        h.tick(20, 0, 1);
+        giveAll(h, 3);
+        h.tick(8, 0, GONE_0);
+        giveAll(h, 3);
+        h.tick(8, 0, 0);
+        idle(h, 1);
+        dueAll("piece 2 came", receiverAsked(h, 1, 0, R, H, MS, X, REORDER, POLLS), 1, 3, 1, 3, 5, 2);
+        return h;
     }
 
     private static void oldDataWithPoll() {
@@ -203,6 +228,14 @@ public final class SentencesOfReceiverTest extends Bench {
         idle(equal, 2);
         equal.tick(0, 0, 0);
         dueAll("R is 2: it stops, and doesn't run", receiverAsked(equal, 1, 0, R, H, X, REORDER), 2, 2, 2, 0);
+        House last = pieces(1);
+        idle(last, 2);
+        last.tick(9, 0, 0);
+        last.tick(0, 0, 1);
+        idle(last, 3);
+        due("its last tick comes", last.receiver(1, 0, REORDER), 2);
+        last.tick(0, 0, 0);
+        dueAll("it stops in it, too", receiverAsked(last, 1, 0, R, X, REORDER), 2, 2, 0);
         House above = pieces(1, GONE_0, 0);
         dueAll("X is 3", receiverAsked(above, 1, 0, X, REORDER), 3, 6);
         idle(above, 1);
@@ -359,6 +392,11 @@ public final class SentencesOfReceiverTest extends Bench {
         dueAll("STORED already", deliveredAsked(h, 1, 0, NEXT, STORED, DOUBLES), 0, 1, 1);
         h.tick(40, 0, 0);
         dueAll("both are right", deliveredAsked(h, 1, 0, NEXT, SUM), 2, sumOf(sumOf(0, row(3, 10)), row(3, 20)));
+        House least = allButTheFirst(2);
+        least.tick(2 + 2 + 1 + 2 + 2, 0, GONE_0);
+        least.tick(6, 0, 0);
+        least.renew();
+        dueAll("a unit of one byte, too", deliveredAsked(least, 1, 0, NEXT, STORED, DOUBLES), 0, 1, 1);
     }
 
     private static void keyOfNow() {
@@ -449,6 +487,18 @@ public final class SentencesOfReceiverTest extends Bench {
         House h = everyOtherUnit();
         h.tick(0, 20, 0);
         dueAll("for units 1 to 4", air(h, 1, 1, 8), 5, 128 + 32, 0, 0, 0, 64 + 16, 255);
+        // A STATUS goes ahead.
+        h.tick(4 + 2 + 2 + 1 + 2 + 2, 0, 0);
+        h.tick(6, 0, 0);
+        due("0 and 1 come, so 3 is NEXT", h.delivered(1, 0, NEXT), 3);
+        giveAll(h, 1, 1);
+        h.tick(6, 0, GONE_0);
+        h.tick(6, 0, GONE_0);
+        h.tick(6, 0, 0);
+        h.renew();
+        due("4 and 6 are STORED", h.delivered(1, 0, STORED), 2);
+        h.tick(0, 20, 0);
+        dueAll("for units 4 to 6", air(h, 1, 1, 8), 5, 128 + 32, 0, 0, 3, 128 + 32, 255);
     }
 
     private static void belowNextIsConfirmed() {
@@ -473,6 +523,28 @@ public final class SentencesOfReceiverTest extends Bench {
         dueAll("2 and 4 are confirmed", senderAsked(h, 0, 0, KEPT, WAITING), 3, 2 + 3 * 2);
         h.tick(40, 0, 0);
         dueAll("0, 1 and 3 come; no DOUBLES", deliveredAsked(h, 1, 0, NEXT, DOUBLES), 5, 0);
+        House far = plainHouse();
+        for (int i = 0; i < 11; i++) {
+            giveAll(far, 1);
+        }
+        for (int i = 0; i < 11; i++) {
+            far.tick(6, 0, i < 10 ? GONE_0 : 0);
+        }
+        far.renew();
+        far.tick(0, 20, 0);
+        dueAll("a 1 for unit 10, in the second byte", air(far, 1, 4, 8), 0, 0, 0, 64);
+        dueAll("it alone is confirmed", senderAsked(far, 0, 0, KEPT, WAITING), 10, 2 + 10 * 2);
+        far.tick(60, 0, 0);
+        dueAll("the others come", deliveredAsked(far, 1, 0, NEXT, DOUBLES), 11, 0);
+        House high = houseWithNext(62);
+        giveAll(high, 1, 1, 1);
+        high.tick(6, 0, GONE_0);
+        high.tick(6, 0, GONE_0);
+        high.tick(6, 0, 0);
+        high.renew();
+        high.tick(0, 20, 0);
+        dueAll("NEXT is 62, and a 1 for unit 64", air(high, 1, 4, 7), 0, 62, 64);
+        dueAll("it alone is confirmed", senderAsked(high, 0, 0, KEPT, WAITING), 2, 2 + 2 * 2);
     }
 
     private static void takenOutIfNoByteIsGone() {
@@ -484,6 +556,8 @@ public final class SentencesOfReceiverTest extends Bench {
         dueAll("one byte is gone", senderAsked(one, 0, 0, KEPT, WAITING), 1, 1);
         one.tick(20, 0, 0);
         due("the rest of it goes out", one.delivered(1, 0, DOUBLES), 1);
+        one.tick(0, 20, 0);
+        dueAll("a STATUS does not confirm it again", senderAsked(one, 0, 0, A, S, KEPT, NEXT_COUNT), 2, 2, 0, 2);
         House all = allButTheFirst(2);
         all.tick(40, 20, 0);
         dueAll("all bytes are gone", senderAsked(all, 0, 0, KEPT, WAITING), 0, 0);

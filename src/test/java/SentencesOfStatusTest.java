@@ -65,6 +65,15 @@ public final class SentencesOfStatusTest extends Bench {
         giveAll(none, 3);
         none.tick(20, 250, 0);
         dueAll("no entries", air(none, 1, 0, 5), 0, 2, 0, 1, 255);
+        House behind = new House(2, 1);
+        giveAll(behind, 3);
+        behind.tick(8, 0, 0);
+        giveAll(behind, 3);
+        behind.tick(8, 0, GONE_0);
+        give(behind, 1, 1, 3, 0);
+        behind.tick(0, 20, 0);
+        dueAll("no entries, and bearer 1 behind", air(behind, 1, 0, 6), 0, 2, 0, 1, 1, 6);
+        dueAll("its byte is no entry", senderAsked(behind, 0, 0, A, S, AGAIN), 1, 2, 0);
         House h = houseWithRuns(15);
         h.tick(0, 250, 0);
         dueAll("15 entries", air(h, 1, 0, 4), 0, 2 + 45, 15, 1);
@@ -118,6 +127,13 @@ public final class SentencesOfStatusTest extends Bench {
         h.tick(0, 20, 0);
         dueAll("from the field's first byte on", air(h, 1, 0, 7), 0, 8, 2, 1, 128, 0, 2);
         due("bytes 0 to 2 and 5 to 9 in AGAIN", h.sender(0, 0, AGAIN), 8);
+        House first = lostPiece(4);
+        for (int i = 0; i < 5; i++) {
+            first.tick(6, 0, i == 0 ? GONE_0 : 0);
+        }
+        idle(first, 2);
+        first.tick(0, 20, 0);
+        dueAll("the field's first byte alone", air(first, 1, 0, 8), 0, 5, 1, 1, 128, 0, 0, 255);
         House last = lostPiece(9);
         last.tick(0, 0, 0);
         last.tick(9, 0, GONE_0);
@@ -136,6 +152,13 @@ public final class SentencesOfStatusTest extends Bench {
         due("up to the end in AGAIN", h.sender(0, 0, AGAIN), 6);
         h.tick(20, 0, 0);
         due("then it comes", h.delivered(1, 0, SUM), sumOf(0, row(9, 0)));
+        House one = lostPiece(9);
+        for (int i = 0; i < 4; i++) {
+            one.tick(6, 0, i < 3 ? GONE_0 : 0);
+        }
+        idle(one, 5);
+        one.tick(0, 20, 0);
+        dueAll("a byte in the midst came", air(one, 1, 0, 11), 0, 8, 2, 1, 128, 0, 2, 128, 4, 255, 255);
         House most = lostPiece(120, 118);
         most.tick(2 + 3 + 1 + 238, 0, 0);
         idle(most, 5);
@@ -270,6 +293,17 @@ public final class SentencesOfStatusTest extends Bench {
         idle(named, 5);
         named.tick(0, 20, 0);
         dueAll("an entry names piece 0", senderAsked(named, 0, 0, A, S, AGAIN), 0, 2, 5);
+        House both = lostPiece(9);
+        both.tick(10, 0, 0);
+        both.tick(7, 0, GONE_0);
+        both.tick(20, 0, 0);
+        giveAll(both, 2, 2);
+        both.tick(7, 0, GONE_0);
+        both.tick(7, 0, 0);
+        idle(both, 7);
+        both.tick(0, 20, 0);
+        dueAll("an entry for a run of piece 0, one for 1", air(both, 1, 0, 8), 0, 6, 2, 3, 128, 5, 6, 1);
+        dueAll("0 and 1 are not confirmed, 2 is", senderAsked(both, 0, 0, A, AGAIN, KEPT), 0, 2 + 3, 2);
     }
 
     /** A STATUS with an entry for piece 0 and ACK 2 comes in tick 16, when A is 2. */
@@ -369,6 +403,32 @@ public final class SentencesOfStatusTest extends Bench {
         h.tick(0, 0, 0);
         dueAll("confirmed", senderAsked(h, 0, 0, A, AGAIN, KEPT), 1, 0, 0);
         due("nothing goes again", h.tick(250, 0, 0), 0);
+        House late = middlePieceIsLate();
+        dueAll("1 is confirmed, 0 and 2 are not", senderAsked(late, 1, 0, A, AGAIN), 0, 10);
+        late.tick(0, 9, 0);
+        due("piece 0 goes", late.block(1, 3), 0);
+        late.tick(0, 9, 0);
+        due("then piece 2", late.block(1, 3), 2);
+        late.tick(0, 9, 0);
+        due("then a new one", late.block(1, 3), 4);
+    }
+
+    /** Peer 1's pieces 0 and 2 are gone; 1 comes in tick 10, when a STATUS has just named it. Another confirms it. */
+    private static House middlePieceIsLate() {
+        House h = plainHouse();
+        give(h, 1, 0, 119, 0);
+        for (int faults : new int[] {GONE_1, 2, GONE_1, 0}) {
+            h.tick(0, 9, faults);
+        }
+        idle(h, 1);
+        h.tick(0, 0, 2);
+        idle(h, 3);
+        h.tick(20, 0, 0);
+        dueAll("0, 1 and 2", air(h, 0, 0, 7), 0, 5, 3, 4, 0, 1, 2);
+        dueAll("all in AGAIN, and piece 1 is there", new int[] {h.sender(1, 0, AGAIN), h.receiver(0, 0, HELD)}, 15, 10);
+        idle(h, 5);
+        h.tick(20, 0, 0);
+        return h;
     }
 
     private static void lowestThatIsNot() {
@@ -445,6 +505,22 @@ public final class SentencesOfStatusTest extends Bench {
         idle(h, 3);
         h.tick(0, 20, 0);
         dueAll("both are", senderAsked(h, 0, 0, A, KEPT), 2, 0);
+        House first = plainHouse();
+        giveAll(first, 3);
+        first.tick(20, 20, 0);
+        giveAll(first, 10);
+        first.tick(5, 0, GONE_0);
+        first.tick(20, 0, 0);
+        idle(first, 5);
+        first.tick(0, 20, 0);
+        dueAll("all but the first byte", senderAsked(first, 0, 0, AGAIN, KEPT), 1, 1);
+        first.renew();
+        first.tick(6, 0, GONE_0);
+        first.tick(2 + 2 + 10, 0, 0);
+        idle(first, 5);
+        first.tick(0, 2 + 3, 0);
+        dueAll("behind a renewal all but the last", senderAsked(first, 0, 0, STATUS_CAME, S, AGAIN, KEPT, WAITING),
+            3, 2, 2, 1, 1);
         House two = plainHouse();
         giveAll(two, 3, 10);
         two.tick(2 + 2 + 1 + 4 + 5, 0, 0);
@@ -453,5 +529,22 @@ public final class SentencesOfStatusTest extends Bench {
         idle(two, 9);
         two.tick(250, 20, 0);
         dueAll("the POLL timer brings piece 0; a STATUS comes", senderAsked(two, 0, 0, A, KEPT), 1, 1);
+        // A REPORT's bytes are no unit's, whatever COUNT stands behind them.
+        House report = plainHouse();
+        for (int i = 0; i < 32; i++) {
+            giveAll(report, 1);
+            if (i == 20 || i == 30) {
+                report.tick(250, 250, 0);
+                idle(report, 5);
+            }
+        }
+        report.renew();
+        report.tick(6, 0, 0);
+        report.tick(6, 0, GONE_0);
+        idle(report, 9);
+        report.tick(6, 0, 0);
+        dueAll("the REPORT has gone again", new int[] {report.block(0, 3), report.receiver(1, 0, WANTED)}, 0, 1);
+        report.tick(0, 4, 0);
+        dueAll("it is confirmed, unit 31 isn't", senderAsked(report, 0, 0, A, S, KEPT), 1, 2, 1);
     }
 }
